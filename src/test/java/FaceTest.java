@@ -114,7 +114,7 @@ public final class FaceTest {
 
     private static void text(String source) {
         String[] forbidden = {"import ", "package ", "catch ", "finally", "->", "::", "synchronized",
-            "assert ", "System.", "float ", "Random", "Thread", "native "};
+            "assert ", "System.out", "System.nano", "System.current", "Random", "Thread", "native "};
         for (String word : forbidden) {
             Checks.same("'" + word + "' in the text", "" + source.contains(word), "false");
         }

@@ -408,6 +408,8 @@ public final class PromisesTest {
         Checks.due("12 the last", g::thickest, 7);
         g.snow(0, 12);
         Checks.due("12 the first", g::thickest, 0);
+        g.snow(1, 13);
+        Checks.due("12 the second", g::thickest, 1);
     }
 
     // Promise 13
@@ -767,6 +769,10 @@ public final class PromisesTest {
         g.endYear(true);
         g.compact(5);
         Checks.due("26 that can be replayed", g::richestYear, 2);
+        GlacierYears little = glacier();
+        little.snow(7, 1);
+        little.endYear(false);
+        Checks.due("26 a single ice is more than none", little::richestYear, 1);
     }
 
     // Promise 27
