@@ -6,10 +6,11 @@ import java.util.List;
  * thought of speed: it replays each year from its own core, and tries each core for bestCore().
  */
 public final class ModelTest {
-    private static final int RUNS = 600;
+    private static final int RUNS = 3000;
     private static final int CALLS = 512;
 
     private long state;
+    private int calls;
 
     public static void main(String[] args) {
         for (int run = 0; run < RUNS; run++) {
@@ -45,28 +46,31 @@ public final class ModelTest {
         Model model = new Model();
         int deedsWeight = 20 + pick(200);
         int yearsWeight = 5 + pick(60);
+        int historyWeight = 5 + pick(40);
+        int questionsWeight = 10 + pick(100);
         int coresOf = 1 + pick(4);
-        for (int call = 0; call < CALLS; call++) {
-            step(run + "/" + call + " ", real, model, deedsWeight, yearsWeight, coresOf);
+        while (calls < CALLS) {
+            String at = run + "/" + calls + " ";
+            int what = pick(deedsWeight + yearsWeight + historyWeight + questionsWeight);
+            if (what < deedsWeight) {
+                deed(at, real, model);
+            } else if (what < deedsWeight + yearsWeight) {
+                boolean core = pick(coresOf) == 0;
+                hold(at + "endYear " + core, () -> real.endYear(core), () -> model.endYear(core));
+            } else if (what < deedsWeight + yearsWeight + historyWeight) {
+                history(at, real, model);
+            } else {
+                ask(at, real, model);
+            }
         }
     }
 
-    private void step(String at, GlacierYears real, Model model, int deeds, int years, int coresOf) {
-        int what = pick(deeds + years + 60);
-        if (what < deeds) {
-            deed(at, real, model);
-        } else if (what < deeds + years) {
-            boolean core = pick(coresOf) == 0;
-            hold(at + "endYear " + core, () -> real.endYear(core), () -> model.endYear(core));
-        } else if (what < deeds + years + 20) {
-            history(at, real, model);
-        } else {
-            ask(at, real, model);
+    /** Behind the last call that the document speaks of, what a glacier answers is free. */
+    private void hold(String what, Checks.Call real, Checks.Call model) {
+        if (calls < CALLS) {
+            calls++;
+            Checks.same(what, Checks.outcome(real), Checks.outcome(model));
         }
-    }
-
-    private static void hold(String what, Checks.Call real, Checks.Call model) {
-        Checks.same(what, Checks.outcome(real), Checks.outcome(model));
     }
 
     private void deed(String at, GlacierYears real, Model model) {
@@ -94,33 +98,56 @@ public final class ModelTest {
     }
 
     private void ask(String at, GlacierYears real, Model model) {
-        int year = near(0, model.year());
-        int layer = near(0, model.year() - 1);
-        int core = near(0, model.cores() - 1);
+        switch (pick(3)) {
+            case 0 -> askWhatThereIs(at, real, model);
+            case 1 -> askOfLayersAndCores(at, real, model);
+            default -> askOfYears(at, real, model);
+        }
+    }
+
+    private void askWhatThereIs(String at, GlacierYears real, Model model) {
         int place = near(0, 7);
         int years = near(1, 30);
-        hold(at + "year", real::year, model::year);
-        hold(at + "iceAt", () -> real.iceAt(place), () -> model.iceAt(place));
-        hold(at + "ice", real::ice, model::ice);
-        hold(at + "thickest", real::thickest, model::thickest);
-        hold(at + "deeds", real::deeds, model::deeds);
-        hold(at + "deedsOf", () -> real.deedsOf(layer), () -> model.deedsOf(layer));
-        hold(at + "sealOf", () -> real.sealOf(layer), () -> model.sealOf(layer));
-        hold(at + "isCompacted", () -> real.isCompacted(layer), () -> model.isCompacted(layer));
-        hold(at + "isFalse", () -> real.isFalse(layer), () -> model.isFalse(layer));
-        hold(at + "firstFalse", real::firstFalse, model::firstFalse);
-        hold(at + "cores", real::cores, model::cores);
-        hold(at + "yearOf", () -> real.yearOf(core), () -> model.yearOf(core));
-        hold(at + "iceOfCore", () -> real.iceOfCore(core), () -> model.iceOfCore(core));
-        hold(at + "canReplay", () -> real.canReplay(year), () -> model.canReplay(year));
-        hold(at + "replayedFrom", () -> real.replayedFrom(year), () -> model.replayedFrom(year));
-        hold(at + "replayCost", () -> real.replayCost(year), () -> model.replayCost(year));
-        hold(at + "iceInYear", () -> real.iceInYear(year, place), () -> model.iceInYear(year, place));
-        hold(at + "richestYear", real::richestYear, model::richestYear);
-        hold(at + "iceAfter", () -> real.iceAfter(years), () -> model.iceAfter(years));
-        hold(at + "bestCore", real::bestCore, model::bestCore);
-        hold(at + "meanIce", real::meanIce, model::meanIce);
-        hold(at + "digest", real::digest, model::digest);
+        switch (pick(8)) {
+            case 0 -> hold(at + "year", real::year, model::year);
+            case 1 -> hold(at + "iceAt " + place, () -> real.iceAt(place), () -> model.iceAt(place));
+            case 2 -> hold(at + "ice", real::ice, model::ice);
+            case 3 -> hold(at + "thickest", real::thickest, model::thickest);
+            case 4 -> hold(at + "deeds", real::deeds, model::deeds);
+            case 5 -> hold(at + "iceAfter " + years, () -> real.iceAfter(years), () -> model.iceAfter(years));
+            case 6 -> hold(at + "meanIce", real::meanIce, model::meanIce);
+            default -> hold(at + "digest", real::digest, model::digest);
+        }
+    }
+
+    private void askOfLayersAndCores(String at, GlacierYears real, Model model) {
+        int layer = near(0, model.year() - 1);
+        int core = near(0, model.cores() - 1);
+        switch (pick(8)) {
+            case 0 -> hold(at + "deedsOf " + layer, () -> real.deedsOf(layer), () -> model.deedsOf(layer));
+            case 1 -> hold(at + "sealOf " + layer, () -> real.sealOf(layer), () -> model.sealOf(layer));
+            case 2 -> hold(at + "isCompacted " + layer, () -> real.isCompacted(layer), () -> model.isCompacted(layer));
+            case 3 -> hold(at + "isFalse " + layer, () -> real.isFalse(layer), () -> model.isFalse(layer));
+            case 4 -> hold(at + "firstFalse", real::firstFalse, model::firstFalse);
+            case 5 -> hold(at + "cores", real::cores, model::cores);
+            case 6 -> hold(at + "yearOf " + core, () -> real.yearOf(core), () -> model.yearOf(core));
+            default -> hold(at + "iceOfCore " + core, () -> real.iceOfCore(core), () -> model.iceOfCore(core));
+        }
+    }
+
+    private void askOfYears(String at, GlacierYears real, Model model) {
+        int year = near(0, model.year());
+        int place = near(0, 7);
+        String of = year + " ";
+        switch (pick(6)) {
+            case 0 -> hold(at + "canReplay " + of, () -> real.canReplay(year), () -> model.canReplay(year));
+            case 1 -> hold(at + "replayedFrom " + of, () -> real.replayedFrom(year), () -> model.replayedFrom(year));
+            case 2 -> hold(at + "replayCost " + of, () -> real.replayCost(year), () -> model.replayCost(year));
+            case 3 -> hold(at + "iceInYear " + of + place, () -> real.iceInYear(year, place),
+                    () -> model.iceInYear(year, place));
+            case 4 -> hold(at + "richestYear", real::richestYear, model::richestYear);
+            default -> hold(at + "bestCore", real::bestCore, model::bestCore);
+        }
     }
 
     private static final class Core {
