@@ -70,13 +70,16 @@ final class Checks {
     /** That the call throws this exception, and that no other method answers otherwise behind it. */
     private static void refuses(String what, Past past, Ask ask, String exception) {
         answers(what, past, ask, "throws." + exception);
-        Past behindIt = past.then(g -> outcome(() -> ask.of(g)));
-        sameLines(what + " changes nothing", Portrait.of(behindIt), Portrait.of(past));
+        alike(what + " changes nothing", past.then(g -> outcome(() -> ask.of(g))), past);
     }
 
     /** That both have lived to be alike: every answer is the same. */
     static void alike(String what, Past past, Past other) {
-        sameLines(what, Portrait.of(past), Portrait.of(other));
+        try {
+            sameLines(what, Portrait.of(past), Portrait.of(other));
+        } catch (RuntimeException e) {
+            same(what, "throws." + e.getClass().getSimpleName() + " while it lives", "no exception");
+        }
     }
 
     private static void sameLines(String what, List<String> got, List<String> want) {

@@ -44,6 +44,8 @@ final class DeedBoundaries {
         forgeNoDeed();
         forgeNoAmount();
         forgeFlow();
+        forgeDeedFromZero();
+        forgeFromNowOn();
         throwAwayReturns();
         throwAwayNoCore();
         throwAwayCompacted();
@@ -355,6 +357,34 @@ final class DeedBoundaries {
         for (int two : new int[] {1, -1, 99, 100, LOWEST, HIGHEST}) {
             Checks.refusesArgument("" + two, past, g -> g.forge(4, 2, two));
         }
+    }
+
+    private static void forgeDeedFromZero() {
+        Sentences.promise(7, "- `deed`: the deed, from 0 on");
+        Past past = g -> {
+            for (int deed = 0; deed < 12; deed++) {
+                g.snow(deed % 8, deed + 1);
+            }
+            g.endYear(false);
+        };
+        for (int deed = 0; deed < 12; deed++) {
+            int d = deed;
+            Checks.answers("deed " + d, past, g -> g.forge(0, d, 99), d + 1);
+        }
+        Checks.answers("the deed 0 is that of the place 0", past.then(g -> g.forge(0, 0, 99)), g -> g.iceInYear(1, 0), 108);
+        Checks.answers("the deed 11 is that of the place 3", past.then(g -> g.forge(0, 11, 99)), g -> g.iceInYear(1, 3), 103);
+    }
+
+    private static void forgeFromNowOn() {
+        Sentences.promise(7, "- `two`: its two from now on");
+        Past past = Past.snow(0, 10).then(Past.year()).then(Past.snow(0, 20)).then(Past.coredYear());
+        Past forged = past.then(g -> g.forge(0, 0, 50)).then(g -> g.forge(1, 0, 70));
+        Checks.answers("a replay", forged, g -> g.iceInYear(1, 0), 50);
+        Checks.answers("a core is as it was", forged, g -> g.iceInYear(2, 0), 30);
+        Checks.answers("without the core", forged.then(g -> g.throwAway(2)), g -> g.iceInYear(2, 0), 120);
+        Checks.answers("a year that would be", forged, g -> g.iceAfter(1), 100);
+        Checks.answers("the ice of now is as it was", forged, g -> g.iceAt(0), 30);
+        Checks.answers("forged again", forged, g -> g.forge(0, 0, 10), 50);
     }
 
     private static void throwAwayReturns() {

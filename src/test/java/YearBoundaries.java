@@ -261,8 +261,10 @@ final class YearBoundaries {
         Checks.answers("as it is replayed, forged", forged, GlacierYears::richestYear, 3);
         Past melted = Past.snow(0, 50).then(Past.year()).then(g -> g.melt(0, 10)).then(Past.year());
         Checks.answers("behind a replay", melted.then(g -> g.iceInYear(1, 0)), GlacierYears::richestYear, 1);
-        Past flowed = melted.then(g -> g.flow(0)).then(Past.year()).then(Past.snow(7, 9));
-        Checks.answers("behind years that would be", flowed.then(g -> g.iceAfter(30)), GlacierYears::richestYear, 1);
+        // If what would be were left over, the melting of the year 1 would take ice from the place 7.
+        Past grown = Past.snow(0, 10).then(Past.year()).then(g -> g.melt(7, 99)).then(Past.snow(0, 5))
+                .then(Past.years(2)).then(Past.snow(7, 99));
+        Checks.answers("behind years that would be", grown.then(g -> g.iceAfter(1)), GlacierYears::richestYear, 2);
         Past full = Past.full(0).then(Past.year());
         Checks.answers("behind a replay with more ice", full.then(g -> g.iceInYear(1, 0)), GlacierYears::richestYear, 1);
     }
@@ -288,6 +290,10 @@ final class YearBoundaries {
         Checks.answers("a core of one in the middle", lower.then(g -> g.compact(3)), GlacierYears::richestYear, 2);
         Past empty = Past.snow(0, 50).then(Past.year()).then(g -> g.melt(0, 99)).then(Past.coredYear());
         Checks.answers("only years without ice", empty.then(g -> g.compact(2)), GlacierYears::richestYear, 0);
+        Past lost = Past.coredYear().then(g -> g.compact(1)).then(Past.snow(0, 99)).then(Past.year())
+                .then(g -> g.melt(0, 99)).then(Past.coredYears(5));
+        Checks.answers("with the core of 1", lost, GlacierYears::richestYear, 2);
+        Checks.answers("which is lost for a seventh", lost.then(Past.coredYear()), GlacierYears::richestYear, 0);
     }
 
     private static void iceAfterOneAndThirty() {
