@@ -371,8 +371,10 @@ final class DeedBoundaries {
             int d = deed;
             Checks.answers("deed " + d, past, g -> g.forge(0, d, 99), d + 1);
         }
-        Checks.answers("the deed 0 is that of the place 0", past.then(g -> g.forge(0, 0, 99)), g -> g.iceInYear(1, 0), 108);
-        Checks.answers("the deed 11 is that of the place 3", past.then(g -> g.forge(0, 11, 99)), g -> g.iceInYear(1, 3), 103);
+        Past first = past.then(g -> g.forge(0, 0, 99));
+        Checks.answers("the deed 0 is that of the place 0", first, g -> g.iceInYear(1, 0), 108);
+        Past last = past.then(g -> g.forge(0, 11, 99));
+        Checks.answers("the deed 11 is that of the place 3", last, g -> g.iceInYear(1, 3), 103);
     }
 
     private static void forgeFromNowOn() {
