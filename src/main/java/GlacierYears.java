@@ -162,12 +162,12 @@ public final class GlacierYears {
 
     public boolean isFalse(int layer) throws IndexOutOfBoundsException {
         requireLayer(layer);
-        return layers.isForged(layer);
+        return layers.isUntrue(layer);
     }
 
     public int firstFalse() {
         for (int layer = 0; layer < layers.count(); layer++) {
-            if (layers.isForged(layer)) {
+            if (layers.isUntrue(layer)) {
                 return layer;
             }
         }
@@ -285,7 +285,7 @@ public final class GlacierYears {
             d = d * 31 + layers.deedsIn(layer);
             d = d * 31 + layers.writtenSeal(layer);
             d = d * 31 + (layers.isForgotten(layer) ? 1 : 0);
-            d = d * 31 + (layers.isForged(layer) ? 1 : 0);
+            d = d * 31 + (layers.isUntrue(layer) ? 1 : 0);
         }
         return d;
     }
@@ -323,7 +323,7 @@ public final class GlacierYears {
     }
 
     private void requireRoomForDeed() {
-        if (!layers.takeDeed()) {
+        if (!layers.hasRoomForDeed()) {
             throw new IllegalStateException("12 deeds were done in this year, or there are 40 layers");
         }
     }
@@ -512,7 +512,7 @@ public final class GlacierYears {
             return closed >= MOST_LAYERS;
         }
 
-        boolean takeDeed() {
+        boolean hasRoomForDeed() {
             return !areFull() && deedsIn(closed) < DEEDS_OF_A_YEAR;
         }
 
@@ -522,7 +522,7 @@ public final class GlacierYears {
 
         void note(int kind, int one, int two) {
             int layer = closed;
-            if (!hasRow(layer) || !takeDeed()) {
+            if (!hasRow(layer) || !hasRoomForDeed()) {
                 return;
             }
             int slot = layer * DEEDS_OF_A_YEAR + manies[layer];
@@ -589,7 +589,7 @@ public final class GlacierYears {
             return hasRow(layer) ? seals[layer] : SEAL_AHEAD_OF_ALL;
         }
 
-        boolean isForged(int layer) {
+        boolean isUntrue(int layer) {
             return !isForgotten(layer) && reckonSeal(layer) != writtenSeal(layer);
         }
 
